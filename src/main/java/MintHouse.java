@@ -234,8 +234,8 @@ public final class MintHouse {
         }
         needs.clear();
         if (coins.count() > 0) {
-            // No needed coin lies above 300: of any d coins some pay a multiple of d together, so
-            // a sum that can't be split is d times at most the greatest coin, divided by d.
+            // No needed coin lies above 300: of any d coins some pay a multiple of d, so d times a
+            // sum that can't be split is paid by d coins at most, each of them 300 at most.
             leastSums.take(coins, coins.least());
             for (int s = 1; s <= MOST_VALUE; s++) {
                 if (leastSums.reaches(d * s)) {
@@ -918,8 +918,9 @@ public final class MintHouse {
 
         private int sizeByLesser(int sum) {
             int size = NONE;
-            for (int i = 0; i < coins.count() && coins.value(i) <= sum; i++) {
-                int before = sizes[sum - coins.value(i)];
+            for (int i = 0; i < coins.count(); i++) {
+                int left = sum - coins.value(i);
+                int before = left >= 0 ? sizes[left] : NONE;
                 if (before != NONE && (size == NONE || before + 1 < size)) {
                     size = before + 1;
                 }

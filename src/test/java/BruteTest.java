@@ -1,3 +1,4 @@
+import java.math.BigInteger;
 import java.util.ArrayList;
 import java.util.Arrays;
 import java.util.List;
@@ -366,6 +367,36 @@ public final class BruteTest {
     due(call + " apart", x.apart(0, s), apartOf(payings));
   }
 
+  /** Ways of all sums by numbers without an end, and great ranks there and back. */
+  private static void greatWays(int[] coins) {
+    BigInteger limit = BigInteger.valueOf(4_000_000_000_000_000_000L);
+    BigInteger[] ways = new BigInteger[3001];
+    Arrays.fill(ways, BigInteger.ZERO);
+    ways[0] = BigInteger.ONE;
+    for (int c : coins) {
+      for (int s = c; s <= 3000; s++) {
+        ways[s] = ways[s].add(ways[s - c]);
+      }
+    }
+    MintHouse x = new MintHouse();
+    fill(x, 0, coins);
+    for (int s = 0; s <= 3000; s++) {
+      String call = Arrays.toString(coins) + " of " + s;
+      boolean told = ways[s].compareTo(limit) <= 0;
+      due(call + " ways", x.ways(0, s), told ? ways[s].longValue() : -2);
+      long rank = told ? ways[s].longValue() - 1 - DRAW.nextInt(3) : 0;
+      due(call + " of " + rank, x.of(0, s, rank) ? 1 : 0, told && rank >= 0 ? 1 : 0);
+      if (told && rank >= 0) {
+        due(call + " rank", x.rank(), rank);
+        int sum = 0;
+        for (int i = 0; i < coins.length; i++) {
+          sum += x.hand(i) * coins[i];
+        }
+        due(call + " sum of the hand", sum, s);
+      }
+    }
+  }
+
   private static int apartOf(List<int[]> payings) {
     int n = payings.size();
     if (n == 0 || n > 200) {
@@ -628,6 +659,12 @@ public final class BruteTest {
       payingsOf(draw(1 + DRAW.nextInt(5), 3 + DRAW.nextInt(20)), DRAW.nextInt(60));
     }
     payingsOf(new int[] {1, 300}, 3000);
+    greatWays(new int[] {1, 2, 3, 4, 5, 6, 7, 8, 9, 10, 11, 12});
+    greatWays(new int[] {1, 2, 3, 4, 5, 6, 7, 8, 9, 10, 11, 30});
+    greatWays(new int[] {1, 2, 3, 4, 5, 7, 11, 13, 17, 19, 23, 29});
+    for (int round = 0; round < 10; round++) {
+      greatWays(draw(12, 20 + 28 * round));
+    }
     payingsOf(new int[] {7, 16, 300}, 1700);
     searchesAll();
     for (int round = 0; round < 120; round++) {

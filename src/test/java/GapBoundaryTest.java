@@ -47,7 +47,8 @@ public final class GapBoundaryTest {
   private static void rest() {
     TEST.sentence("promise 16", "The least sum that can be paid and leaves the rest r, divided by the least COIN",
         "mint 0: 6 9 20", "unchanged: rest(0, 0) = 0", "rest(0, 1) = 49", "rest(0, 2) = 20", "rest(0, 3) = 9", "rest(0, 4) = 40",
-        "unchanged: rest(0, 5) = 29", "mint 1: 299 300", "rest(1, 298) = 89_400", "mint 2: 1 300", "rest(2, 0) = 0");
+        "unchanged: rest(0, 5) = 29", "mint 1: 299 300", "rest(1, 298) = 89_400", "mint 2: 1 300", "rest(2, 0) = 0",
+        "mint 3: 9 11 15", "rest(3, 1) = 37", "rest(3, 7) = 52", "rest(3, 8) = 26");
     TEST.sentence("promise 16", "NONE if there is none.", "mint 0: 4 6", "unchanged: rest(0, 1) = NONE", "rest(0, 2) = 6",
         "rest(0, 3) = NONE", "mint 1: 300", "rest(1, 0) = 0", "rest(1, 1) = NONE", "rest(1, 299) = NONE");
     TEST.sentence("promise 16", "IllegalArgumentException: r is not 0 to that COIN less 1", "mint 0: 6 9 20",

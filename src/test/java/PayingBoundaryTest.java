@@ -39,6 +39,16 @@ public final class PayingBoundaryTest {
         "with(0, 100_000_000_000_157, 5) = 1_000_000_000_001", "with(0, 100_000_000_000_157, 4) = 1",
         "with(0, 100_000_000_000_157, 3) = 1", "with(0, 100_000_000_000_157, 2) = 0",
         "with(0, 100_000_000_000_157, 1) = 0", "with(0, 100_000_000_000_157, 0) = 1");
+    // Far up such rests are paid by many 299, so that small sums of them are told otherwise than great ones.
+    TEST.sentence("term 1, small sums beside great coins", "then the next greatest, and so on", "mint 0: 1 2 3 4 5 6 299 300",
+        "fewest(0, 11) = 2", "with(0, 11, 7) = 0", "with(0, 11, 6) = 0", "with(0, 11, 5) = 1", "with(0, 11, 4) = 1",
+        "with(0, 11, 3) = 0", "with(0, 11, 0) = 0", "melt(0, 1) = true", "melt(0, 6) = true", "fewest(0, 11) = 3",
+        "with(0, 11, 3) = 1", "with(0, 11, 2) = 1", "with(0, 11, 1) = 0", "with(0, 11, 0) = 1", "with(0, 11, 4) = 0",
+        "with(0, 11, 5) = 0", "with(0, 15, 3) = 3", "with(0, 7, 3) = 1", "with(0, 7, 0) = 1", "with(0, 1, 0) = NONE",
+        "with(0, 2, 0) = 1", "with(0, 2, 1) = 0", "mint 1: 1 299 300", "with(1, 298, 0) = 298", "with(1, 298, 1) = 0",
+        "with(1, 298, 2) = 0", "with(1, 597, 0) = 297", "with(1, 597, 2) = 1", "with(1, 598, 1) = 2", "with(1, 598, 0) = 0");
+    TEST.sentence("term 1, one COIN", "of like ones that PAYING is told", "mint 0: 6 9 20", "with(0, 9, 0) = 0", "with(0, 9, 1) = 1",
+        "with(0, 9, 2) = 0", "with(0, 20, 0) = 0", "with(0, 20, 2) = 1", "with(0, 6, 0) = 1", "with(0, 6, 2) = 0");
     TEST.sentence("term 1, without and with the greatest", "has the greatest COIN most often", "mint 0: 299 300",
         "with(0, 598, 0) = 2", "with(0, 598, 1) = 0", "with(0, 89_401, 0) = 299", "with(0, 89_401, 1) = 0",
         "with(0, 89_700, 0) = 0", "with(0, 89_700, 1) = 299", "with(0, 89_701, 0) = 299", "with(0, 89_701, 1) = 1");
@@ -174,7 +184,7 @@ public final class PayingBoundaryTest {
   private static void apart() {
     TEST.sentence("promise 28", "differ by the greater SIZE of what is left of them without what both have", "mint 0: 1 300",
         "apart(0, 300) = 300", "apart(0, 3000) = 300", "mint 1: 4 6", "apart(1, 12) = 3", "apart(1, 100) = 3",
-        "mint 2: 1 3 4", "apart(2, 4) = 3", "apart(2, 6) = 3", "apart(2, 3) = 3");
+        "mint 2: 1 3 4", "apart(2, 4) = 3", "apart(2, 6) = 3", "apart(2, 3) = 3", "mint 3: 4 9 10", "ways(3, 18) = 2", "apart(3, 18) = 3");
     TEST.sentence("promise 28", "0 of one PAYING", "unchanged: apart(0, 0) = 0", "mint 0: 2 3", "apart(0, 0) = 0",
         "apart(0, 2) = 0", "apart(0, 5) = 0", "apart(0, 6) = 3", "mint 1: 300", "apart(1, 3000) = 0");
     TEST.sentence("promise 28", "NONE of none.", "unchanged: apart(0, 1) = NONE", "apart(0, 3000) = NONE", "mint 0: 2 3",

@@ -111,7 +111,14 @@ public final class PurseBoundaryTest {
   private static void change() {
     TEST.sentence("term 3", "the fewest COINS that move in all (both ways)", "mint 0: 1 3 4", "mint 1: 10",
         "purse 0 of mint 0: 2 1 1", "purse 1 of mint 1: 1", "unchanged: change(1, 0, 6) = 2", "change(1, 0, 1) = 5",
-        "change(1, 0, 10) = 1", "change(0, 1, 9) = 4", "change(0, 1, 0) = 0", "change(1, 0, 0) = 0");
+        "change(1, 0, 10) = 1", "change(0, 1, 9) = 4", "change(0, 1, 0) = 0", "change(1, 0, 0) = 0",
+        "mint 2: 6 100", "mint 3: 1 90", "purse 2 of mint 2: 2 1", "purse 3 of mint 3: 2 1", "change(2, 3, 10) = 2");
+    // Twelve values, twenty of each: no purse has more COINS.
+    TEST.sentence("term 3, all COINS of a full PURSE", "the payer gives some of its COINS", "mint 0: 1 2 3 4 5 6 7 8 9 10 11 12",
+        "purse 0 of mint 0: 20 20 20 20 20 20 20 20 20 20 20 20", "has(0, -2) = 1560", "pays(0, 1560) = 240", "pays(0, 1559) = 239",
+        "pays(0, 240) = 20", "holes(0) = 0", "unchanged: change(0, 1, 1560) = 240", "deal(0, 1, 1560) = 240", "has(0, -2) = 0",
+        "purse 1 is: 20*1 20*2 20*3 20*4 20*5 20*6 20*7 20*8 20*9 20*10 20*11 20*12", "deal(1, 0, 240) = 20", "has(0, 11) = 20",
+        "has(1, 11) = 0", "has(1, 10) = 20");
     TEST.sentence("promise 38", "NONE if there is none.", "change(0, 1, 0) = 0", "unchanged: change(0, 1, 1) = NONE",
         "mint 0: 1 300", "purse 0 of mint 0: 20 0", "purse 7 of mint 0: 0 1", "change(7, 0, 280) = 21",
         "unchanged: change(7, 0, 279) = NONE", "change(7, 0, 300) = 1", "unchanged: change(7, 0, 301) = NONE",

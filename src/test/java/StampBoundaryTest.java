@@ -19,7 +19,8 @@ public final class StampBoundaryTest {
     TEST.sentence("promise 30", "FEWEST of all sums from a to b together", "mint 0: 1", "unchanged: span(0, 0, 0) = 0",
         "span(0, 0, 1) = 1", "span(0, 1, 1) = 1", "span(0, 0, 100_000) = 5_000_050_000", "span(0, 100_000, 100_000) = 100_000",
         "mint 1: 1 300", "span(1, 0, 100_000) = 31_557_133", "span(1, 299, 300) = 300", "span(1, 300, 301) = 3", "mint 2: 2 3",
-        "span(2, 2, 100_000) = 1_666_716_666", "mint 3: 299 300", "span(3, 89_102, 100_000) = 3_440_502");
+        "span(2, 2, 100_000) = 1_666_716_666", "mint 3: 299 300", "span(3, 89_102, 100_000) = 3_440_502", "mint 4: 1 299 300", "span(4, 298, 298) = 298",
+        "span(4, 0, 298) = 44_551", "span(4, 597, 598) = 300");
     TEST.sentence("promise 30", "NONE if one can't be paid.", "unchanged: span(0, 0, 1) = NONE", "span(0, 0, 0) = 0",
         "span(0, 1, 1) = NONE", "span(0, 100_000, 100_000) = NONE", "mint 0: 2", "span(0, 2, 2) = 1", "span(0, 2, 3) = NONE",
         "span(0, 1, 2) = NONE", "span(0, 0, 100_000) = NONE", "mint 1: 2 3", "span(1, 1, 100_000) = NONE", "span(1, 0, 0) = 0",

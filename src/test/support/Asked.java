@@ -23,10 +23,6 @@ final class Asked {
     return face;
   }
 
-  int calls() {
-    return calls;
-  }
-
   /** The answer as a text: a number, true, false, done (of a call without one), NoSuch or Illegal. */
   String ask(String call) {
     int open = call.indexOf('(');

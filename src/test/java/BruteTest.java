@@ -7,9 +7,12 @@ import java.util.TreeSet;
 
 /** Compares the class with plain reckoning by the document's own words, on mints and purses drawn by a fixed seed. */
 public final class BruteTest {
+  // What an object answers beyond so many calls is free.
+  private static final int MOST_CALLS = 512;
   private static final Random DRAW = new Random(20261116);
   private static int wrong = 0;
   private static long checked = 0;
+  private static int asked = 0;
 
   private static void due(String call, long got, long want) {
     checked++;
@@ -34,6 +37,20 @@ public final class BruteTest {
     for (int c : coins) {
       x.coin(mint, c);
     }
+  }
+
+  private static MintHouse houseOf(int[] coins) {
+    MintHouse x = new MintHouse();
+    fill(x, 0, coins);
+    asked = coins.length;
+    return x;
+  }
+
+  /** The object that was made last, if it serves so many calls more, else a new one with the same mint. */
+  private static MintHouse serving(MintHouse x, int[] coins, int calls) {
+    MintHouse next = asked + calls <= MOST_CALLS ? x : houseOf(coins);
+    asked += calls;
+    return next;
   }
 
   private static boolean[] paid(int[] coins, int to) {
@@ -101,13 +118,13 @@ public final class BruteTest {
   }
 
   private static void fewestOfAll(int[] coins, int to) {
-    MintHouse x = new MintHouse();
-    fill(x, 0, coins);
+    MintHouse x = houseOf(coins);
     int[][] told = told(coins, to);
     String mint = Arrays.toString(coins);
     int fails = -1;
     for (int s = 0; s <= to; s++) {
       int size = told[s] == null ? -1 : size(told[s]);
+      x = serving(x, coins, 2 + coins.length);
       due(mint + " fewest " + s, x.fewest(0, s), size);
       for (int i = 0; i < coins.length; i++) {
         due(mint + " with " + s + ", " + i, x.with(0, s, i), told[s] == null ? -1 : told[s][i]);
@@ -118,6 +135,7 @@ public final class BruteTest {
         fails = s;
       }
     }
+    x = serving(x, coins, 13);
     due(mint + " fails", x.fails(0), fails);
     due(mint + " always", x.always(0) ? 1 : 0, fails == -1 ? 1 : 0);
     for (int round = 0; round < 5; round++) {
@@ -155,12 +173,12 @@ public final class BruteTest {
     int greatest = coins[coins.length - 1];
     int to = 3 * greatest * greatest + greatest;
     int[][] told = told(coins, to);
-    MintHouse x = new MintHouse();
-    fill(x, 0, coins);
+    MintHouse x = houseOf(coins);
     for (int near = to - greatest + 1; near <= to; near++) {
       long more = (1_000_000_000_000_000L - to) / greatest;
       long s = near + more * greatest;
       String call = Arrays.toString(coins) + " at " + s;
+      x = serving(x, coins, 1 + coins.length);
       due(call + " fewest", x.fewest(0, s), told[near] == null ? -1 : size(told[near]) + more);
       for (int i = 0; i < coins.length; i++) {
         long want = told[near] == null ? -1 : told[near][i] + (i == coins.length - 1 ? more : 0);
@@ -181,8 +199,7 @@ public final class BruteTest {
         }
       }
     }
-    MintHouse x = new MintHouse();
-    fill(x, 0, coins);
+    MintHouse x = houseOf(coins);
     long all = 0;
     int from = to;
     while (from >= 0 && size[from] != -1) {
@@ -190,22 +207,27 @@ public final class BruteTest {
       from--;
     }
     String mint = Arrays.toString(coins);
+    x = serving(x, coins, 3);
     if (from < to) {
       due(mint + " span", x.span(0, from + 1, to), all);
     }
     if (from >= 0) {
       due(mint + " span with a gap", x.span(0, from, to), -1);
     }
+    due(mint + " fails", x.fails(0), failsOf(coins, size));
     for (int s = to; s >= 0; s -= 1 + DRAW.nextInt(40)) {
+      x = serving(x, coins, 1);
       due(mint + " fewest " + s, x.fewest(0, s), size[s]);
     }
-    int fails = -1;
-    for (int s = to; s >= 1; s--) {
+  }
+
+  private static int failsOf(int[] coins, int[] size) {
+    for (int s = 1; s < size.length; s++) {
       if (size[s] != -1 && greedyBig(coins, s) != size[s]) {
-        fails = s;
+        return s;
       }
     }
-    due(mint + " fails", x.fails(0), fails);
+    return -1;
   }
 
   private static long greedyBig(int[] coins, int s) {
@@ -229,8 +251,7 @@ public final class BruteTest {
   }
 
   private static void gapsOf(int[] coins, int to) {
-    MintHouse x = new MintHouse();
-    fill(x, 0, coins);
+    MintHouse x = houseOf(coins);
     String mint = Arrays.toString(coins);
     boolean[] paid = paid(coins, to);
     List<Integer> gaps = new ArrayList<>();
@@ -242,12 +263,15 @@ public final class BruteTest {
     int divisor = divisorOf(coins);
     boolean end = divisor == 1;
     int last = gaps.isEmpty() ? -1 : gaps.get(gaps.size() - 1);
+    x = serving(x, coins, 3);
     due(mint + " divisor", x.divisor(0), divisor);
     due(mint + " many", x.many(0), end ? gaps.size() : -1);
     due(mint + " last", x.last(0), end ? last : -2);
     for (int i = 0; i < gaps.size(); i += 1 + DRAW.nextInt(1 + to / 400)) {
+      x = serving(x, coins, 1);
       due(mint + " gap " + i, x.gap(0, i), gaps.get(i));
     }
+    x = serving(x, coins, 3 + (coins.length > 0 ? coins[0] : 0));
     if (end) {
       due(mint + " gap " + gaps.size(), x.gap(0, gaps.size()), -1);
     }
@@ -352,19 +376,20 @@ public final class BruteTest {
   private static void payingsOf(int[] coins, int s) {
     List<int[]> payings = new ArrayList<>();
     collect(coins, coins.length - 1, s, new int[coins.length], payings);
-    MintHouse x = new MintHouse();
-    fill(x, 0, coins);
+    MintHouse x = houseOf(coins);
     String call = Arrays.toString(coins) + " of " + s;
+    x = serving(x, coins, 3);
     due(call + " ways", x.ways(0, s), payings.size());
+    due(call + " of behind the last", x.of(0, s, payings.size()) ? 1 : 0, 0);
+    due(call + " apart", x.apart(0, s), apartOf(payings));
     for (int rank = 0; rank < payings.size(); rank += 1 + rank / 40) {
+      x = serving(x, coins, 2 + coins.length);
       due(call + " of " + rank, x.of(0, s, rank) ? 1 : 0, 1);
       for (int i = 0; i < coins.length; i++) {
         due(call + " hand " + rank + ", " + i, x.hand(i), payings.get(rank)[i]);
       }
       due(call + " rank", x.rank(), rank);
     }
-    due(call + " of behind the last", x.of(0, s, payings.size()) ? 1 : 0, 0);
-    due(call + " apart", x.apart(0, s), apartOf(payings));
   }
 
   /** Ways of all sums by numbers without an end, and great ranks there and back. */
@@ -378,9 +403,9 @@ public final class BruteTest {
         ways[s] = ways[s].add(ways[s - c]);
       }
     }
-    MintHouse x = new MintHouse();
-    fill(x, 0, coins);
+    MintHouse x = houseOf(coins);
     for (int s = 0; s <= 3000; s++) {
+      x = serving(x, coins, 3 + coins.length);
       String call = Arrays.toString(coins) + " of " + s;
       boolean told = ways[s].compareTo(limit) <= 0;
       due(call + " ways", x.ways(0, s), told ? ways[s].longValue() : -2);
@@ -519,7 +544,6 @@ public final class BruteTest {
     collectPurse(others, otherCounts, others.length - 1, new int[others.length], backs);
     MintHouse x = new MintHouse();
     fillPurse(x, 4, 0, coins, counts);
-    fillPurse(x, 5, 1, others, otherCounts);
     String call = Arrays.toString(coins) + " " + Arrays.toString(counts) + " to " + Arrays.toString(others) + " "
         + Arrays.toString(otherCounts);
     int total = sum(coins, counts);
@@ -537,6 +561,12 @@ public final class BruteTest {
     due(call + " holes", x.holes(4), holes);
     due(call + " pays too much", x.pays(4, total + 1), -1);
     for (int s = 0; s <= total + 1; s++) {
+      if (s % 8 == 0) {
+        // Eight deals with a look at both purses take some 450 calls.
+        x = new MintHouse();
+        fillPurse(x, 4, 0, coins, counts);
+        fillPurse(x, 5, 1, others, otherCounts);
+      }
       int[] give = null;
       int[] back = null;
       for (int[] g : gives) {
@@ -605,8 +635,6 @@ public final class BruteTest {
       int i = DRAW.nextInt(coins.length);
       counts[i] = counts[i] / 2;
     }
-    MintHouse x = new MintHouse();
-    fillPurse(x, 0, 0, coins, counts);
     int total = sum(coins, counts);
     int[] fewest = new int[total + 1];
     Arrays.fill(fewest, 1, total + 1, -1);
@@ -620,12 +648,19 @@ public final class BruteTest {
         }
       }
     }
+    String call = Arrays.toString(coins) + Arrays.toString(counts);
+    MintHouse x = new MintHouse();
     int holes = 0;
     for (int s = 0; s <= total; s++) {
-      due(Arrays.toString(coins) + Arrays.toString(counts) + " pays " + s, x.pays(0, s), fewest[s]);
+      if (s % 480 == 0) {
+        // To fill it and to ask for the holes takes up to 26 calls.
+        x = new MintHouse();
+        fillPurse(x, 0, 0, coins, counts);
+      }
+      due(call + " pays " + s, x.pays(0, s), fewest[s]);
       holes += fewest[s] == -1 ? 1 : 0;
     }
-    due(Arrays.toString(coins) + Arrays.toString(counts) + " holes", x.holes(0), holes);
+    due(call + " holes", x.holes(0), holes);
   }
 
   public static void main(String[] args) {

@@ -22,7 +22,8 @@ public final class RoomTest {
     for (int v = 0; v < 12; v++) {
       all += x.fill(0, 10 + 24 * v, 11) + x.fill(1, 289 + v, 5);
     }
-    for (int round = 0; round < 20; round++) {
+    // With these rounds the object is asked 510 times of the 512 that it serves.
+    for (int round = 0; round < 19; round++) {
       all += x.fewest(round % 4, 88_000) + x.with(2, 89_000, 0) + x.span(round % 4, 89_400, 100_000);
       all += x.gap(2, 40_000) + x.last(2) + x.many(2) + (x.mirror(2) ? 1 : 0) + x.needed(0) + x.fails(0);
       all += x.join(0, 2, 7) + x.part(0, 1, 7) + x.factor(0, 7, 7) + (x.same(0, 1) ? 1 : 0);
